@@ -109,7 +109,7 @@ public final class StreetWalker {
     }
 
     public int walkLength() {
-        int best = bestSet();
+        int best = bestAmong(0, present);
         if (best == NONE || !connected()) {
             return NONE;
         }
@@ -121,7 +121,7 @@ public final class StreetWalker {
         if (walkLength() == NONE || !isCorner(c) || !contains(corners, c)) {
             return NONE;
         }
-        int twice = bestSet();
+        int twice = bestAmong(0, present);
         if (k < 0 || k >= sizeOf(present) + sizeOf(twice)) {
             return NONE;
         }
