@@ -1,3 +1,4 @@
+import java.lang.reflect.Method;
 import java.util.ArrayList;
 import java.util.List;
 import java.util.function.Consumer;
@@ -696,7 +697,10 @@ public final class StreetWalkerBounds {
     }
 
     private static void bestSetHasFirstAndLastStreet() {
-        Town town = new Town("9, bits 0 and 9", 0, 1, 1, 2, 3, 9, 2, 3, 9, 2, 3, 9, 2, 3, 9, 2, 3, 9, 2, 3, 9, 2, 3, 9, 2, 3, 9);
+        Town town = new Town("9, bits 0 and 9", 0, 1, 1);
+        for (int s = 1; s < 9; s++) {
+            town.build(2, 3, 9, s);
+        }
         town.build(4, 5, 1, 9);
         town.bestSet(1 + 512);
         town.extra(2);
@@ -1045,74 +1049,17 @@ public final class StreetWalkerBounds {
         });
     }
 
-    public static void main(String[] args) {
-        Runnable[] tests = {
-            StreetWalkerBounds::call512IsStillAnswered,
-            StreetWalkerBounds::objectsAreApart,
-            StreetWalkerBounds::streetsAreGoneAlongBothWays,
-            StreetWalkerBounds::tenStreetsJoinTwoCorners,
-            StreetWalkerBounds::bestSetIsDecidedAtTheFirstDigit,
-            StreetWalkerBounds::bestSetIsDecidedAtTheLastDigits,
-            StreetWalkerBounds::bestSetOfLengthZeroHasNoRing,
-            StreetWalkerBounds::newTownHasNoStreets,
-            StreetWalkerBounds::buildRefusesEqualCorners,
-            StreetWalkerBounds::buildRefusesFirstCorner,
-            StreetWalkerBounds::buildRefusesSecondCorner,
-            StreetWalkerBounds::buildRefusesLength,
-            StreetWalkerBounds::buildRefusesSeveralAtOnce,
-            StreetWalkerBounds::buildIsFullAtTen,
-            StreetWalkerBounds::buildTakesTheLeastFreeNumber,
-            StreetWalkerBounds::allTenCloseAndBuildAgain,
-            StreetWalkerBounds::refusedBuildChangesNothing,
-            StreetWalkerBounds::buildWhenFullChangesNothing,
-            StreetWalkerBounds::closeRefusesNumbersOutside,
-            StreetWalkerBounds::closeRefusesWhereNoStreetIs,
-            StreetWalkerBounds::refusedCloseChangesNothing,
-            StreetWalkerBounds::closedForGood,
-            StreetWalkerBounds::setLengthRefusesNumbersOutside,
-            StreetWalkerBounds::setLengthRefusesWhereNoStreetIs,
-            StreetWalkerBounds::setLengthRefusesLength,
-            StreetWalkerBounds::setLengthRefusesBothAtOnce,
-            StreetWalkerBounds::refusedSetLengthChangesNothing,
-            StreetWalkerBounds::streetsFromNoneToTen,
-            StreetWalkerBounds::oddFromNoneToAll,
-            StreetWalkerBounds::connectedWithoutStreets,
-            StreetWalkerBounds::connectedCountsNoCornerWithoutStreets,
-            StreetWalkerBounds::connectedNeedsTheLastStreet,
-            StreetWalkerBounds::connectedAlongTheLongestPath,
-            StreetWalkerBounds::thereIsAlwaysAnExtraSet,
-            StreetWalkerBounds::bestSetHasFirstAndLastStreet,
-            StreetWalkerBounds::extraWithRefusesNumbersOutside,
-            StreetWalkerBounds::extraWithRefusesWhereNoStreetIs,
-            StreetWalkerBounds::extraWithIsThereForEveryStreet,
-            StreetWalkerBounds::extraWithoutRefusesNumbersOutside,
-            StreetWalkerBounds::extraWithoutRefusesWhereNoStreetIs,
-            StreetWalkerBounds::extraWithoutIsNoneWhenEverySetContainsTheStreet,
-            StreetWalkerBounds::wayIsZeroAtEqualCorners,
-            StreetWalkerBounds::wayRefusesFirstCorner,
-            StreetWalkerBounds::wayRefusesSecondCorner,
-            StreetWalkerBounds::wayRefusesBothCorners,
-            StreetWalkerBounds::noWay,
-            StreetWalkerBounds::waysOfLeastAndGreatestLength,
-            StreetWalkerBounds::walkLengthWithoutStreets,
-            StreetWalkerBounds::walkLengthWhenNotConnected,
-            StreetWalkerBounds::walkLengthOfTenLongStreets,
-            StreetWalkerBounds::walkAtRefusesCornersOutside,
-            StreetWalkerBounds::walkAtWhereNoStreetEnds,
-            StreetWalkerBounds::walkAtWithoutStreets,
-            StreetWalkerBounds::walkAtWhenNotConnected,
-            StreetWalkerBounds::walkAtRefusesPlacesOutside,
-            StreetWalkerBounds::shortestAndLongestWalk,
-            StreetWalkerBounds::walkGetsShorterAndLonger,
-            StreetWalkerBounds::noneIsTestedBeforeFull,
-            StreetWalkerBounds::atNineStreetsNothingIsFull,
-            StreetWalkerBounds::askingChangesNothing,
-        };
-        for (Runnable test : tests) {
-            test.run();
+    /** Runs every method here that takes nothing and answers nothing, so that no test can be forgotten in a list. */
+    public static void main(String[] args) throws ReflectiveOperationException {
+        int tests = 0;
+        for (Method method : StreetWalkerBounds.class.getDeclaredMethods()) {
+            if (method.getParameterCount() == 0 && method.getReturnType() == void.class) {
+                method.invoke(null);
+                tests++;
+            }
         }
-        System.out.println(wrong == 0 ? "all answers are as due" : wrong + " answers are not as due");
-        if (wrong != 0) {
+        System.out.println(tests + " tests: " + (wrong == 0 ? "all answers are as due" : wrong + " answers are not as due"));
+        if (wrong != 0 || tests == 0) {
             System.exit(1);
         }
     }
